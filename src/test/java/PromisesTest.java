@@ -454,6 +454,15 @@ public final class PromisesTest {
         due(20, "kind of two blocks", with(3, 28).kind(0), 8);
         due(20, "kind of a part and a pair", with(1, 30, 6).kind(0), 0);
         due(20, "kind of a part and a chain", with(1, 30, 2, 6, 14).kind(0), 1);
+        for (int a = 0; a < 5; a++) {
+            for (int b = 0; b < 5; b++) {
+                PointSpaces x = withLoose();
+                x.tie(0, a, b);
+                due(20, "kind of loose with " + a + " tied to " + b, x.kind(0), a == b ? 11 : 1);
+                x.tie(0, b, a);
+                due(20, "kind of loose with " + a + " and " + b + " alike", x.kind(0), a == b ? 11 : 8);
+            }
+        }
         for (int s : WRONG_SPACES) {
             due(20, "kind(" + s + ")", new PointSpaces().kind(s), -1);
         }
