@@ -23,6 +23,8 @@ public final class ModelTest {
                 checkLikeness(entry.getKey(), entry.getValue(), index);
             }
         }
+        checkPairs(new ArrayList<>(WAYS.keySet()));
+        checkEveryMap(new ArrayList<>(WAYS.keySet()));
         for (int run = 0; run < RUNS; run++) {
             checkRun(run);
         }
@@ -121,6 +123,48 @@ public final class ModelTest {
             due("maps" + way + map + " from " + t, x.maps(t, 0), m.maps(t, 0));
             due("same" + way + map + " to " + t, x.same(0, t), m.same(0, t));
             due("same" + way + map + " from " + t, x.same(t, 0), m.same(t, 0));
+        }
+    }
+
+    /** Every space with one far from it in the list: what they share, and what they make together. */
+    private static void checkPairs(List<TreeSet<Integer>> spaces) {
+        for (int i = 0; i < spaces.size(); i++) {
+            TreeSet<Integer> first = spaces.get(i);
+            TreeSet<Integer> second = spaces.get((i * 1009 + 500) % spaces.size());
+            PointSpaces x = made(WAYS.get(first));
+            Model m = new Model();
+            m.put(0, first);
+            m.put(1, second);
+            for (int set : WAYS.get(second)) {
+                x.open(1, set);
+            }
+            due("copy of pair " + i, x.copy(2, 1), m.copy(2, 1));
+            due("meet of pair " + i, x.meet(2, 0), m.meet(2, 0));
+            dueSameSpaces("meet of pair " + i, x, m);
+            due("join of pair " + i, x.join(0, 1), m.join(0, 1));
+            dueSameSpaces("join of pair " + i, x, m);
+        }
+    }
+
+    /** Every map, each with a space of its own, to another space and to the space itself. */
+    private static void checkEveryMap(List<TreeSet<Integer>> spaces) {
+        for (int map = 0; map < 3125; map++) {
+            TreeSet<Integer> family = spaces.get(map * 2003 % spaces.size());
+            PointSpaces x = made(WAYS.get(family));
+            Model m = new Model();
+            m.put(0, family);
+            due("pull by " + map, x.pull(1, 0, map), m.pull(1, 0, map));
+            due("push by " + map, x.push(2, 0, map), m.push(2, 0, map));
+            dueSameSpaces("pull and push by " + map, x, m);
+            for (int t = 0; t < 3; t++) {
+                due("continuous by " + map, x.continuous(0, t, map), m.isContinuous(0, t, map) ? 1 : 0);
+                due("continuous by " + map, x.continuous(t, 0, map), m.isContinuous(t, 0, map) ? 1 : 0);
+            }
+            x.copy(1, 0);
+            m.copy(1, 0);
+            due("pull of itself by " + map, x.pull(0, 0, map), m.pull(0, 0, map));
+            due("push of itself by " + map, x.push(1, 1, map), m.push(1, 1, map));
+            dueSameSpaces("pull and push of itself by " + map, x, m);
         }
     }
 
